@@ -288,8 +288,7 @@ public final class FrontCodedIndex {
     }
 
     public int distance(int from, int to) throws IllegalArgumentException, IllegalStateException {
-        // The second cursor's existence goes before the first one's being closed.
-        refuseMissingCursor(from);
+        // That the second one does not exist goes before the first one's being closed.
         refuseMissingCursor(to);
         int start = placeOfCursor(from);
         return placeOfCursor(to) - start;
@@ -751,6 +750,7 @@ public final class FrontCodedIndex {
         }
     }
 
+    /** Adds entries, and makes room where a page is too large. */
     private static final class Inserter {
         private final Tree tree;
         private final Cursors cursors;
@@ -848,11 +848,11 @@ public final class FrontCodedIndex {
             int start = tree.startOf(tier, page);
             int end = tree.endOf(tier, page);
             int best = start + 1;
-            int least = Integer.MAX_VALUE;
+            int least = -1;
             for (int cut = start + 1; cut < end; cut++) {
                 int left = tree.spanBytes(tier, start, cut);
                 int difference = Math.abs(left - tree.spanBytes(tier, cut, end));
-                if (difference < least) {
+                if (least < 0 || difference < least) {
                     least = difference;
                     best = cut;
                 }
@@ -861,6 +861,7 @@ public final class FrontCodedIndex {
         }
     }
 
+    /** Removes entries, and merges pages that are too small. */
     private static final class Remover {
         private final Tree tree;
         private final Cursors cursors;
@@ -919,6 +920,7 @@ public final class FrontCodedIndex {
         }
     }
 
+    /** The entries that wait for being loaded. */
     private static final class LoadList {
         private final KeyRow keys = new KeyRow();
         private final IntRow values = new IntRow();
