@@ -37,6 +37,40 @@ final class Keys {
         }
     }
 
+    /** Puts an entry for each key of a list, with spaces between them; its number is its value. */
+    static void putAll(FrontCodedIndex x, String list) {
+        String[] keys = list.split(" ");
+        for (int i = 0; i < keys.length; i++) {
+            put(x, keys[i], i);
+        }
+    }
+
+    /** Queues an entry for each key of a list, with spaces between them; its number is its value. */
+    static void queueAll(FrontCodedIndex x, String list) {
+        String[] keys = list.split(" ");
+        for (int i = 0; i < keys.length; i++) {
+            queue(x, keys[i], i);
+        }
+    }
+
+    /** A tree of this capacity that a list of keys was loaded into. */
+    static FrontCodedIndex loaded(int capacity, int fill, String list) {
+        FrontCodedIndex x = new FrontCodedIndex();
+        x.setCapacity(capacity);
+        queueAll(x, list);
+        x.load(fill);
+        return x;
+    }
+
+    /** A list of so many keys of one sign, from this sign on. */
+    static String signs(char first, int n) {
+        StringBuilder list = new StringBuilder();
+        for (int i = 0; i < n; i++) {
+            list.append(i == 0 ? "" : " ").append((char) (first + i));
+        }
+        return list.toString();
+    }
+
     static int remove(FrontCodedIndex x, String text) {
         set(x, text);
         return x.remove();
@@ -45,6 +79,11 @@ final class Keys {
     static int queue(FrontCodedIndex x, String text, int value) {
         set(x, text);
         return x.queue(value);
+    }
+
+    static boolean open(FrontCodedIndex x, int cursor, String text) {
+        set(x, text);
+        return x.open(cursor);
     }
 
     /** Sets the bound to one text and the key to another. */
@@ -64,12 +103,33 @@ final class Keys {
         return text.toString();
     }
 
+    /** All levels from the root down, as level() tells each. */
+    static String tree(FrontCodedIndex x) {
+        StringBuilder text = new StringBuilder();
+        for (int level = 0; level < x.height(); level++) {
+            text.append(level == 0 ? "" : " | ").append(level(x, level));
+        }
+        return text.toString();
+    }
+
     /** The separators of a page; changes the key. */
     static String separators(FrontCodedIndex x, int level, int page) {
         StringBuilder text = new StringBuilder();
         for (int k = 0; k + 1 < x.pageFanout(level, page); k++) {
             x.separator(level, page, k);
             text.append(k == 0 ? "" : " ").append(get(x));
+        }
+        return text.toString();
+    }
+
+    /** The separators of all inner pages, from the root down; changes the key. */
+    static String allSeparators(FrontCodedIndex x) {
+        StringBuilder text = new StringBuilder();
+        for (int level = 0; level + 1 < x.height(); level++) {
+            for (int page = 0; page < x.pageCount(level); page++) {
+                text.append(level + page == 0 ? "" : page == 0 ? " | " : ", ");
+                text.append(separators(x, level, page));
+            }
         }
         return text.toString();
     }
