@@ -400,7 +400,10 @@ public final class CursorEdgeTest {
         Due.is("30 both at the end", x.distance(2, 3), 0);
     }
 
-    /** "the number of entries before the second one minus the number of entries before the first one": of either sign. */
+    /**
+     * "the number of entries before the second one minus the number of entries before the first one": of
+     * either sign.
+     */
     private static void distanceFromFirstToEnd() {
         FrontCodedIndex x = with("a b c");
         Keys.open(x, 0, "");

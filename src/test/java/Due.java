@@ -35,9 +35,19 @@ final class Due {
         try {
             got = "the answer " + call.run();
         } catch (RuntimeException e) {
-            got = e.getClass().getSimpleName();
+            got = e.getClass().getSimpleName() + byTheLibrary(e);
         }
         is(what, got, want.getSimpleName());
+    }
+
+    /** The class throws its exceptions itself, and leaves none to the library or the machine. */
+    static String byTheLibrary(RuntimeException e) {
+        StackTraceElement[] calls = e.getStackTrace();
+        if (calls.length == 0) {
+            return " thrown by the machine";
+        }
+        String thrower = calls[0].getClassName();
+        return thrower.startsWith("java.") || thrower.startsWith("jdk.") ? " thrown by " + thrower : "";
     }
 
     /** Ends the program: with exit code 1 if an answer was wrong. */

@@ -8,6 +8,7 @@ public final class EntryEdgeTest {
         leastCapacity();
         greatestCapacity();
         capacityOfEmptiedTree();
+        capacityLeavesTheRest();
         putEmptyKey();
         putLongestKey();
         putLeastAndGreatestValue();
@@ -67,6 +68,20 @@ public final class EntryEdgeTest {
         Due.is("7 as it was set", x.setCapacity(64), 100);
         x.queue(1);
         Due.is("7 a queued entry is none of the tree", x.setCapacity(65), 64);
+    }
+
+    /** "Sets the capacity.", where the tree is empty: nothing else is changed. */
+    private static void capacityLeavesTheRest() {
+        FrontCodedIndex x = new FrontCodedIndex();
+        Keys.open(x, 0, "a");
+        Keys.queueAll(x, "p q");
+        x.setCapacity(64);
+        Due.is("7 key", Keys.get(x), "q");
+        Due.is("7 the cursor is open", x.close(0), true);
+        Due.is("7 the other isn't", x.close(1), false);
+        Due.is("7 pages", Keys.tree(x), "8/0");
+        x.load(100);
+        Due.is("7 load list", Keys.all(x), "p q");
     }
 
     /** "A key is a sequence of 0 to 12 bytes": the empty key has an entry as others have. */
@@ -236,20 +251,25 @@ public final class EntryEdgeTest {
 
     /**
      * "The entries of a range are removed one after the other, each with what removing it brings.":
-     * "in their order", so that leaf after leaf is emptied into the next.
+     * "in their order", for the other way round the leaves would be merged at last.
      */
     private static void rangeOneAfterTheOther() {
-        FrontCodedIndex x = Keys.loaded(64, 60, Keys.signs('a', 16));
-        FrontCodedIndex y = Keys.loaded(64, 60, Keys.signs('a', 16));
-        Due.is("32 three entries a leaf", Keys.tree(x), "20/2 | 36/4 20/2 | 32/3 32/3 32/3 32/3 32/3 16/1");
-        for (char sign = 'b'; sign <= 'k'; sign++) {
-            Keys.remove(x, String.valueOf(sign));
+        FrontCodedIndex x = Keys.loaded(64, 100, Keys.signs('a', 14));
+        Keys.range(x, "b", "i");
+        Due.is("11 seven", x.removeRange(), 7);
+        // When "g" goes, 16 and 64 don't fit; when "h" goes, its leaf is large enough.
+        Due.is("11 as one after the other", Keys.tree(x), "20/2 | 16/1 56/6");
+        FrontCodedIndex y = Keys.loaded(64, 100, Keys.signs('a', 14));
+        for (char sign = 'h'; sign >= 'b'; sign--) {
+            Keys.remove(y, String.valueOf(sign));
         }
-        Keys.range(y, "b", "l");
-        Due.is("11 ten", y.removeRange(), 10);
-        Due.is("11 the same pages", Keys.tree(y), Keys.tree(x));
-        Due.is("11 the same merges", y.statistic(4), x.statistic(4));
-        Due.is("11 the same separators", Keys.allSeparators(y), Keys.allSeparators(x));
+        Due.is("10 the other way round", Keys.tree(y), "64/7");
+        FrontCodedIndex z = Keys.loaded(64, 40, Keys.signs('A', 32));
+        Keys.range(z, "A", "C");
+        Due.is("11 two", z.removeRange(), 2);
+        // Four merges, up to the root, with the first one; three more with the second one.
+        Due.is("11 each with its merges", z.statistic(4), 7);
+        Due.is("11 four levels are left", z.height(), 4);
     }
 
     /** "Returns the number of entries.", from none on. */

@@ -24,6 +24,7 @@ public final class InsertEdgeTest {
         parentOfExactlyPAfterSplit();
         parentOfExactlyPAfterGivingLeft();
         parentOfExactlyPAfterGivingRight();
+        parentIsSplitByBytes();
         parentTakesFirstOfEqual();
         grandparentIsSplit();
         separatorIsShortest();
@@ -59,11 +60,15 @@ public final class InsertEdgeTest {
         Due.is("8 65 of 64", Keys.tree(y), "20/2 | 40/4 33/3");
     }
 
-    /** "the child that has as many separators before it as there are separators in the page that are not greater than the key". */
+    /**
+     * "the child that has as many separators before it as there are separators in the page that are not
+     * greater than the key".
+     */
     private static void keyEqualToSeparatorGoesRight() {
         FrontCodedIndex x = Keys.loaded(64, 63, Keys.signs('a', 8));
         Keys.remove(x, "e");
-        Due.is("10 the separator isn't an entry now", Keys.tree(x) + " " + Keys.allSeparators(x), "20/2 | 40/4 32/3 e");
+        Due.is("10 before", Keys.tree(x), "20/2 | 40/4 32/3");
+        Due.is("10 the separator isn't an entry now", Keys.allSeparators(x), "e");
         Keys.put(x, "e", 1);
         Due.is("8 to the right", leaves(x), "40/4 40/4");
         Keys.put(x, "d\177", 1);
@@ -295,7 +300,20 @@ public final class InsertEdgeTest {
         Due.is("8 counted", redistributions(y) * 10 + splits(y), 11);
     }
 
-    /** "so that the difference of the sizes of both pages is as small as possible, the first such separator being taken". */
+    /** "the difference of the sizes of both pages is as small as possible": not that of their children. */
+    private static void parentIsSplitByBytes() {
+        FrontCodedIndex x = Keys.loaded(64, 100,
+                "0 1 2 3 Aaaaaaaaa1 Aaaaaaaaa2 B BB Caaaaaaaa1 Caaaaaaaa2 D E F G " + Keys.signs('H', 14));
+        Due.is("8 before", Keys.tree(x), "62/5 | 57/5 58/4 57/5 64/7 64/7");
+        Keys.put(x, "UU", 1);
+        Due.is("8 two children and four", Keys.tree(x), "29/2 | 29/2 36/4 | 57/5 58/4 57/5 64/7 40/4 40/4");
+        Due.is("8 separators", Keys.allSeparators(x), "Caaaaaaaa2 | Aaaaaaaaa2, H O S");
+    }
+
+    /**
+     * "so that the difference of the sizes of both pages is as small as possible, the first such
+     * separator being taken".
+     */
     private static void parentTakesFirstOfEqual() {
         FrontCodedIndex x = Keys.loaded(72, 100, Keys.signs('0', 64));
         Due.is("8 before", Keys.level(x, 0), "68/8");
@@ -323,7 +341,10 @@ public final class InsertEdgeTest {
         Due.is("8 the new root's separator", Keys.get(x), "daaaaaaaaaa1");
     }
 
-    /** "the shortest prefix of the first key of the right leaf that is greater than the last key of the left leaf". */
+    /**
+     * "the shortest prefix of the first key of the right leaf that is greater than the last key of the
+     * left leaf".
+     */
     private static void separatorIsShortest() {
         FrontCodedIndex x = Keys.loaded(64, 40, "aaaab abcdefghijkl abz bcdefghijkl c");
         Due.is("32 leaves", leaves(x), "20/1 27/1 18/1 26/1 16/1");

@@ -4,6 +4,7 @@ public final class LoadEdgeTest {
         queueEmptyKeyFirst();
         queueJustGreater();
         queueAfterLoading();
+        queueLeavesKey();
         queueThreeHundred();
         loadNothing();
         loadOne();
@@ -24,6 +25,8 @@ public final class LoadEdgeTest {
         saveInPlaceOfEarlier();
         saveLeavesAll();
         savedIsApart();
+        savedValueAlone();
+        savedSeparatorsAlone();
         restoreTwice();
         restoreIntoEmptyTree();
         restoreEmptyTree();
@@ -67,6 +70,20 @@ public final class LoadEdgeTest {
         Due.is("31 a less one", Keys.queue(x, "a", 1), 1);
         Due.is("31 one of the tree", Keys.queue(x, "z", 2), 2);
         Due.is("12 the tree is left", x.size(), 3);
+    }
+
+    /** "The methods that say "the key" [...] leave it unchanged", whether they refuse it or not. */
+    private static void queueLeavesKey() {
+        FrontCodedIndex x = new FrontCodedIndex();
+        Keys.queue(x, "abcdefghijkl", 1);
+        Due.is("31 key is left", Keys.get(x), "abcdefghijkl");
+        Due.thrown("31 refused", IllegalStateException.class, () -> x.queue(2));
+        Due.is("31 key is left", Keys.get(x), "abcdefghijkl");
+        x.cutKey(1);
+        x.feed('c');
+        Due.is("31 the queued key is its own", x.queue(3), 2);
+        x.load(100);
+        Due.is("32 entries", Keys.all(x), "abcdefghijkl ac");
     }
 
     /** "Throws IllegalStateException if the load list has 300 entries", and no longer when it is loaded. */
@@ -280,6 +297,36 @@ public final class LoadEdgeTest {
         for (int i = 0; i < 10; i++) {
             Due.is("34 value", x.select(i), i);
         }
+    }
+
+    /** "in place of an earlier snapshot", where a value alone is another one. */
+    private static void savedValueAlone() {
+        FrontCodedIndex x = new FrontCodedIndex();
+        Keys.put(x, "a", 1);
+        x.saveSnapshot();
+        x.put(2);
+        x.restoreSnapshot();
+        Due.is("34 as it was saved", x.get(), 1);
+        x.put(3);
+        x.saveSnapshot();
+        x.put(4);
+        x.restoreSnapshot();
+        Due.is("34 as it was saved later", x.get(), 3);
+    }
+
+    /** "the tree with its pages", where keys, page ends and separators alone are others. */
+    private static void savedSeparatorsAlone() {
+        FrontCodedIndex x = Keys.loaded(64, 100, Keys.signs('a', 14));
+        Keys.remove(x, "a");
+        x.saveSnapshot();
+        Keys.put(x, "o", 1);
+        Keys.remove(x, "d");
+        Due.is("8 given to the left", Keys.tree(x) + " " + Keys.allSeparators(x), "20/2 | 56/6 64/7 i");
+        x.restoreSnapshot();
+        Due.is("34 separator", Keys.tree(x) + " " + Keys.allSeparators(x), "20/2 | 56/6 64/7 h");
+        Due.is("34 entries", Keys.all(x), Keys.signs('b', 13));
+        Keys.put(x, "gz", 1);
+        Due.is("8 to the left of it", Keys.level(x, 1), "64/7 64/7");
     }
 
     /** "the latest snapshot, which is kept". */

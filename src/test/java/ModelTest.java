@@ -144,7 +144,7 @@ public final class ModelTest {
         try {
             return Long.toString(call.of());
         } catch (RuntimeException e) {
-            return e.getClass().getName();
+            return e.getClass().getName() + Due.byTheLibrary(e);
         }
     }
 

@@ -24,6 +24,7 @@ public final class PageEdgeTest {
         occupancyOfEmptyLeaf();
         occupancyOfFullLeaf();
         occupancyOfLeavesAlone();
+        occupancyIsRoundedInOrder();
         Due.end("PageEdgeTest");
     }
 
@@ -75,7 +76,10 @@ public final class PageEdgeTest {
         Due.is("19 nothing is shared with it", x.pageSize(0, 0), 15 + 9);
     }
 
-    /** "the shared length of its key and the key of the entry before it in this leaf (0 for the first entry)". */
+    /**
+     * "the shared length of its key and the key of the entry before it in this leaf (0 for the first
+     * entry)".
+     */
     private static void firstEntryOfALeafSharesNothing() {
         // The limit is 44, so that "abcdeh" begins the second leaf: 13 bytes there, not 8.
         FrontCodedIndex x = Keys.loaded(64, 70, "a abcde abcdef abcdeg abcdeh abcdei");
@@ -119,7 +123,10 @@ public final class PageEdgeTest {
                 "31/2 | 31/2 12/1 | 31/2 31/2 12/1 | 27/1 27/1 27/1 27/1 27/1");
     }
 
-    /** "plus for each separator 3 plus its length minus the shared length of it and the separator before it". */
+    /**
+     * "plus for each separator 3 plus its length minus the shared length of it and the separator before
+     * it".
+     */
     private static void separatorsShareWithTheOneBefore() {
         // Leaves of three entries; the separators are "abd", "abg", "ac".
         FrontCodedIndex x = Keys.loaded(72, 55, "aba abb abc abd abe abf abg abh abi ac");
@@ -227,14 +234,23 @@ public final class PageEdgeTest {
         Due.is("23 seven full leaves", y.occupancyBits(), bits(100.0));
     }
 
-    /** "the sum of the sizes as a double, times 100.0, divided by the number of leaves as a double": in this order. */
+    /** "the average size of all leaves": the 13 inner pages don't count. */
     private static void occupancyOfLeavesAlone() {
-        // 13 leaves of 24 bytes and 13 inner pages; the quotients are rounded one after the other.
         FrontCodedIndex x = Keys.loaded(67, 40, Keys.signs('a', 26));
         Due.is("32 leaves", x.pageCount(x.height() - 1), 13);
         Due.is("23 leaves alone", x.occupancyBits(), bits(312.0 * 100.0 / 13.0 / 67.0));
-        FrontCodedIndex y = Keys.loaded(71, 60, Keys.signs('a', 19));
-        Due.is("32 leaves", Keys.level(y, 2), "40/4 40/4 40/4 40/4 32/3");
-        Due.is("23 uneven", y.occupancyBits(), bits(192.0 * 100.0 / 5.0 / 71.0));
+    }
+
+    /**
+     * "the sum of the sizes as a double, times 100.0, divided by the number of leaves as a double,
+     * divided by the capacity as a double": another order is rounded to other bits here.
+     */
+    private static void occupancyIsRoundedInOrder() {
+        FrontCodedIndex x = Keys.loaded(65, 100, Keys.signs('a', 17));
+        Due.is("32 leaves", Keys.level(x, 1), "64/7 64/7 32/3");
+        long due = bits(160.0 * 100.0 / 3.0 / 65.0);
+        Due.is("23 another order differs", due == bits(160.0 * 100.0 / 65.0 / 3.0), false);
+        Due.is("23 another order differs", due == bits(160.0 / 3.0 / 65.0 * 100.0), false);
+        Due.is("23 in this order", x.occupancyBits(), due);
     }
 }

@@ -204,6 +204,18 @@ public final class RefusedTest {
             refused("18 pageCount: there is no such level: " + level, INDEX, x -> x.pageCount(level));
         }
         refused("18 pageCount: one leaf has no level 1", INDEX, RefusedTest::emptied, x -> x.pageCount(1));
+        for (int level : new int[] {-1, 1, 2}) {
+            refused("18 pageCount: of a higher tree before: " + level, INDEX, RefusedTest::lowered,
+                    x -> x.pageCount(level));
+        }
+    }
+
+    /** The tree had five levels, and has one leaf now. */
+    private static void lowered(FrontCodedIndex x) {
+        x.load(100);
+        Keys.queueAll(x, Keys.signs('A', 32));
+        x.load(40);
+        x.load(40);
     }
 
     private static void pageSize() {
@@ -215,6 +227,10 @@ public final class RefusedTest {
         }
         for (int page : new int[] {-1, 1, LEAST, MOST}) {
             refused("19 pageSize: there is one root: " + page, INDEX, x -> x.pageSize(0, page));
+        }
+        for (int level : new int[] {-1, 1, 2}) {
+            refused("19 pageSize: of a higher tree before: " + level, INDEX, RefusedTest::lowered,
+                    x -> x.pageSize(level, 0));
         }
     }
 
@@ -228,6 +244,10 @@ public final class RefusedTest {
         for (int page : new int[] {-1, 1, LEAST, MOST}) {
             refused("20 pageFanout: there is one root: " + page, INDEX, x -> x.pageFanout(0, page));
         }
+        for (int level : new int[] {-1, 1, 2}) {
+            refused("20 pageFanout: of a higher tree before: " + level, INDEX, RefusedTest::lowered,
+                    x -> x.pageFanout(level, 0));
+        }
     }
 
     private static void separator() {
@@ -236,6 +256,10 @@ public final class RefusedTest {
         }
         for (int page : new int[] {-1, 1, LEAST, MOST}) {
             refused("21 separator: there is no such page: " + page, INDEX, x -> x.separator(0, page, 0));
+        }
+        for (int level : new int[] {-1, 1, 2}) {
+            refused("21 separator: of a higher tree before: " + level, INDEX, RefusedTest::lowered,
+                    x -> x.separator(level, 0, 0));
         }
         refused("21 separator: the page is a leaf", ELEMENT, x -> x.separator(1, 0, 0));
         refused("21 separator: the last page is a leaf", ELEMENT, x -> x.separator(1, 1, 0));

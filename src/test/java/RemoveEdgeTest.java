@@ -27,7 +27,8 @@ public final class RemoveEdgeTest {
         parentWithoutLossStays();
         rootOfTwoChildrenIsNotMerged();
         mergesUpToTheRoot();
-        parentSiblingsOfOneParent();
+        parentNotMergedWithLeftOfAnotherParent();
+        parentNotMergedWithRightOfAnotherParent();
         emptyLeafWithoutSiblingStays();
         emptyLeafTakesEntriesAgain();
         emptyLeafIsMergedLater();
@@ -126,7 +127,10 @@ public final class RemoveEdgeTest {
         Due.is("10 separator", Keys.allSeparators(x), "i");
     }
 
-    /** "If the leaf cannot be merged with its left sibling, since the merged one would be larger than P, the right sibling is tried." */
+    /**
+     * "If the leaf cannot be merged with its left sibling, since the merged one would be larger than P,
+     * the right sibling is tried."
+     */
     private static void rightWhereLeftIsTooLarge() {
         FrontCodedIndex x = Keys.loaded(64, 75, Keys.signs('a', 14));
         Keys.put(x, "aa", 1);
@@ -276,7 +280,10 @@ public final class RemoveEdgeTest {
         Due.is("10 one merge", x.statistic(4), 1);
     }
 
-    /** "This is repeated with the next parent. At last, as long as the root is an inner page with one child, this child becomes the root." */
+    /**
+     * "This is repeated with the next parent. At last, as long as the root is an inner page with one
+     * child, this child becomes the root."
+     */
     private static void mergesUpToTheRoot() {
         FrontCodedIndex x = Keys.loaded(64, 40, Keys.signs('A', 32));
         Due.is("10 before", Keys.level(x, 0) + " | " + Keys.level(x, 1) + " | " + Keys.level(x, 2),
@@ -291,11 +298,25 @@ public final class RemoveEdgeTest {
     }
 
     /** "The siblings of a page are the other children of its parent", for inner pages as well. */
-    private static void parentSiblingsOfOneParent() {
+    private static void parentNotMergedWithLeftOfAnotherParent() {
         FrontCodedIndex x = Keys.loaded(64, 40, Keys.signs('A', 32));
         Keys.remove(x, "I");
         Due.is("10 not with the one of another parent", Keys.level(x, 2), "20/2 20/2 28/3 20/2 20/2 20/2 20/2");
         Due.is("10 above them", Keys.level(x, 0) + " | " + Keys.level(x, 1), "28/3 | 28/3 20/2 20/2");
+    }
+
+    /** "The siblings of a page are the other children of its parent", for inner pages as well. */
+    private static void parentNotMergedWithRightOfAnotherParent() {
+        // The limit is 46. The separators between the inner pages have twelve bytes and nine.
+        FrontCodedIndex x = Keys.loaded(64, 72, Keys.signs('0', 18) + " Caaaaaaaaaa1 Caaaaaaaaaa2"
+                + " a b e f g haa hab i j ka kb l naaaaaaa1 naaaaaaa2 o p q r s t u v w x");
+        Due.is("10 before", Keys.level(x, 0) + " | " + Keys.level(x, 1) + " | " + Keys.level(x, 2),
+                "28/2 | 31/2 12/1 | 44/5 39/4 28/3");
+        removeAll(x, "a b");
+        // 31 and 28 would make 63, but they have different parents; 44 and 31 are too large.
+        Due.is("10 it stays", Keys.level(x, 0) + " | " + Keys.level(x, 1) + " | " + Keys.level(x, 2),
+                "28/2 | 31/2 12/1 | 44/5 31/3 28/3");
+        Due.is("10 one merge", x.statistic(4), 1);
     }
 
     /** Five leaves below one parent and an empty one, which was left alone, below another. */
