@@ -189,9 +189,7 @@ public final class FrontCodedIndex {
     }
 
     public int pageCount(int level) throws IndexOutOfBoundsException {
-        if (level < 0 || level >= tree.tierTotal) {
-            throw new IndexOutOfBoundsException("there is no such level");
-        }
+        refuseMissingLevel(level);
         return tree.pageTotal(tierOf(level));
     }
 
@@ -347,10 +345,14 @@ public final class FrontCodedIndex {
         return tree.tierTotal - 1 - level;
     }
 
-    private void refuseMissingPage(int level, int page) {
+    private void refuseMissingLevel(int level) {
         if (level < 0 || level >= tree.tierTotal) {
             throw new IndexOutOfBoundsException("there is no such level");
         }
+    }
+
+    private void refuseMissingPage(int level, int page) {
+        refuseMissingLevel(level);
         if (page < 0 || page >= tree.pageTotal(tierOf(level))) {
             throw new IndexOutOfBoundsException("there is no such page");
         }
@@ -389,17 +391,16 @@ public final class FrontCodedIndex {
         return sum;
     }
 
-    /** The language has no Double.doubleToLongBits; scaling by 2 is exact, so this is the same. */
-    private static long bitsOf(double positive) {
-        double scaled = positive;
+    /**
+     * The language has no Double.doubleToLongBits; scaling by 2 is exact, so this is the same. A leaf
+     * has 8 bytes at least, and the capacity is 200 at most, so that no occupancy is below 4.
+     */
+    private static long bitsOf(double occupancy) {
+        double scaled = occupancy;
         int exponent = 0;
         while (scaled >= 2.0 && exponent < EXPONENT_BIAS) {
             scaled = scaled / 2.0;
             exponent++;
-        }
-        while (scaled < 1.0 && exponent > 1 - EXPONENT_BIAS) {
-            scaled = scaled * 2.0;
-            exponent--;
         }
         long mantissa = (long) ((scaled - 1.0) * (double) (1L << MANTISSA_BITS));
         return ((long) (exponent + EXPONENT_BIAS) << MANTISSA_BITS) | mantissa;

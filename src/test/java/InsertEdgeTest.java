@@ -20,6 +20,7 @@ public final class InsertEdgeTest {
         noLeftSiblingInAnotherParent();
         noRightSiblingInAnotherParent();
         splitTakesSmallestOfEqual();
+        splitLeavesOneEntry();
         splitCountsTheFirstKeyWhole();
         parentOfExactlyPAfterSplit();
         parentOfExactlyPAfterGivingLeft();
@@ -236,6 +237,16 @@ public final class InsertEdgeTest {
         Keys.put(x, "aa", 1);
         Due.is("8 four and five", Keys.tree(x), "20/2 | 40/4 48/5");
         Due.is("8 separator", Keys.allSeparators(x), "d");
+    }
+
+    /** "and among several such m the smallest one is taken": 1, the least that there is. */
+    private static void splitLeavesOneEntry() {
+        FrontCodedIndex x = new FrontCodedIndex();
+        x.setCapacity(64);
+        Keys.putAll(x, "aaaaaaaaaaaa bbbbbbbbbbbb cccccccccccc");
+        // 8 + 3 * 19 is P + 1; 27 and 46 differ as 46 and 27 do.
+        Due.is("8 one and two", Keys.tree(x), "20/2 | 27/1 46/2");
+        Due.is("8 separator", Keys.allSeparators(x), "b");
     }
 
     /** "the difference of the sizes of both leaves is as small as possible", as they are then. */

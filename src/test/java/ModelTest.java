@@ -6,7 +6,7 @@ import java.util.TreeMap;
  * exceptions have to be the same. Arguments: how many runs, and how many calls each.
  */
 public final class ModelTest {
-    private static final int RUNS = 1500;
+    private static final int RUNS = 1750;
     private static final int CALLS = 512;
 
     private final FrontCodedIndex real = new FrontCodedIndex();
@@ -34,7 +34,7 @@ public final class ModelTest {
     public static void main(String[] args) {
         int runs = args.length > 0 ? Integer.parseInt(args[0]) : RUNS;
         int calls = args.length > 1 ? Integer.parseInt(args[1]) : CALLS;
-        String[] styles = {"short", "prefix", "twins", "load", "mixed", "ascend"};
+        String[] styles = {"short", "prefix", "twins", "load", "mixed", "ascend", "drain"};
         for (int run = 0; run < runs; run++) {
             ModelTest test = new ModelTest(run, calls, styles[run % styles.length]);
             test.run();
@@ -46,7 +46,7 @@ public final class ModelTest {
         }
         System.out.println("seen: " + SEEN);
         for (String what : new String[] {"splits", "redistributions", "merges", "height 4", "empty leaf",
-            "single child"}) {
+            "single child", "several pages without entries"}) {
             if (runs >= RUNS && calls >= CALLS) {
                 Due.is("the runs come to see " + what, SEEN.containsKey(what), true);
             }
@@ -65,7 +65,11 @@ public final class ModelTest {
             same("setCapacity " + p, () -> real.setCapacity(p), () -> model.setCapacity(p));
         }
         if (style.equals("load")) {
-            loadMany(20 + pick(100));
+            loadMany(20 + pick(100), pick(2) == 0 ? 40 + pick(10) : 40 + pick(61));
+        }
+        if (style.equals("drain")) {
+            loadMany(40 + pick(30), 40);
+            drain();
         }
         int growth = pick(3);
         while (agreed && calls < limit - 60) {
@@ -181,7 +185,7 @@ public final class ModelTest {
                 return random(26, 2);
             case "prefix":
                 return random(2, 12);
-            case "twins":
+            case "twins": case "drain":
                 // Neighbours that differ in the last byte alone, so that separators are long.
                 return "" + (char) (97 + pick(20)) + "xxxxxx" + (char) (97 + pick(4));
             case "ascend":
@@ -243,7 +247,17 @@ public final class ModelTest {
         same("removeRange", real::removeRange, model::removeRange);
     }
 
-    private void loadMany(int n) {
+    /** Small leaves that go one by one, in no order, can leave empty ones behind below several parents. */
+    private void drain() {
+        while (agreed && model.size() > 0 && calls < limit) {
+            int entry = pick(model.size());
+            same("select " + entry, () -> real.select(entry), () -> model.select(entry));
+            same("remove", real::remove, model::remove);
+        }
+        look();
+    }
+
+    private void loadMany(int n, int fill) {
         TreeMap<String, Integer> list = new TreeMap<>();
         for (int i = 0; i < n; i++) {
             list.put(nextKey(), i);
@@ -253,7 +267,6 @@ public final class ModelTest {
             int value = entry.getValue();
             same("queue " + value, () -> real.queue(value), () -> model.queue(value));
         }
-        int fill = pick(2) == 0 ? 40 + pick(10) : 40 + pick(61);
         same("load " + fill, () -> real.load(fill), () -> model.load(fill));
         look();
     }

@@ -35,6 +35,8 @@ public final class RemoveEdgeTest {
         emptyRightSiblingIsGiven();
         emptyLeftSiblingIsGiven();
         emptyLeftSiblingIsMerged();
+        emptyTreeOfSeveralPages();
+        emptyTreeOfSeveralPagesIsUsedAgain();
         Due.end("RemoveEdgeTest");
     }
 
@@ -414,5 +416,56 @@ public final class RemoveEdgeTest {
         Due.is("10 merged", Keys.tree(x), "28/3 | 24/2 64/7 64/7");
         x.separator(0, 0, 0);
         Due.is("10 the next separator", x.keyByte(0), 56);
+    }
+
+    /**
+     * Eleven leaves of an entry each, in inner pages of two. The first and the last leaf are emptied
+     * without a sibling, and come to have one when the inner pages are merged.
+     */
+    private static FrontCodedIndex withoutEntriesInTwoLeaves() {
+        FrontCodedIndex x = Keys.loaded(64, 40, "axxxxxxa axxxxxxb bxxxxxxa bxxxxxxb cxxxxxxa cxxxxxxb "
+                + "dxxxxxxa dxxxxxxb exxxxxxa exxxxxxb fxxxxxxa");
+        removeAll(x, "cxxxxxxb cxxxxxxa exxxxxxa axxxxxxa fxxxxxxa axxxxxxb");
+        Due.is("10 the first and the last are empty", Keys.tree(x),
+                "28/3 | 12/1 58/5 12/1 | 8/0 23/1 23/1 23/1 23/1 23/1 8/0");
+        removeAll(x, "bxxxxxxa dxxxxxxa exxxxxxb");
+        Due.is("10 merged with the first inner page", Keys.tree(x), "20/2 | 35/3 12/1 | 8/0 23/1 23/1 8/0");
+        Keys.remove(x, "bxxxxxxb");
+        Due.is("10 and with the last", Keys.tree(x), "35/3 | 8/0 23/1 8/0");
+        Due.is("10 separators", Keys.allSeparators(x), "dxxxxxxb f");
+        Keys.remove(x, "dxxxxxxb");
+        return x;
+    }
+
+    /** "A leaf without entries that has no sibling stays", and merging goes on for a removal alone. */
+    private static void emptyTreeOfSeveralPages() {
+        FrontCodedIndex x = withoutEntriesInTwoLeaves();
+        Due.is("10 merged with the first leaf alone", Keys.tree(x), "20/2 | 8/0 8/0");
+        Due.is("10 separator", Keys.allSeparators(x), "f");
+        Due.is("12 no entry", x.size(), 0);
+        Due.is("17 two levels", x.height(), 2);
+        Due.is("22 all sizes", x.statistic(0), 36);
+        Due.is("22 three pages", x.statistic(1), 3);
+        Due.is("23 two leaves", x.occupancyBits(), Double.doubleToLongBits(12.5));
+        Due.is("24 at the end", x.open(0), false);
+        Due.thrown("27 none before it", NoSuchElementException.class, () -> x.retreat(0));
+        Due.thrown("15 none", NoSuchElementException.class, x::floor);
+        Due.is("33 no entry", x.saveSnapshot(), 0);
+        Due.is("32 loading makes one leaf", x.load(100), 1);
+        Due.is("34 no entry", x.restoreSnapshot(), 0);
+        Due.is("34 but its pages", Keys.tree(x), "20/2 | 8/0 8/0");
+    }
+
+    /** "Throws IllegalStateException if the tree has entries": this one has none. */
+    private static void emptyTreeOfSeveralPagesIsUsedAgain() {
+        FrontCodedIndex x = withoutEntriesInTwoLeaves();
+        Due.is("7 the capacity alone is set", x.setCapacity(80), 64);
+        Due.is("7 the pages stay", Keys.tree(x), "20/2 | 8/0 8/0");
+        Keys.put(x, "f", 1);
+        Due.is("8 into the right leaf", Keys.tree(x), "20/2 | 8/0 16/1");
+        Keys.put(x, "e", 2);
+        Due.is("8 into the left leaf", Keys.tree(x), "20/2 | 16/1 16/1");
+        Keys.remove(x, "e");
+        Due.is("10 merged with the right one", Keys.tree(x), "16/1");
     }
 }
